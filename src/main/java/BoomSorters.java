@@ -11,6 +11,7 @@ public final class BoomSorters {
   private static final int MOST_LOGS = 40;
   private static final int MOST_ORDERS = 6;
   private static final int GATES = 4;
+  private static final int STROKES = 6;
   private static final int LONGEST_FORECAST = 20;
 
   private static final int WOODS = 0;
@@ -733,9 +734,10 @@ public final class BoomSorters {
     }
 
     private void loseGreatestStroke() {
-      for (int bit = 32; bit > 0; bit /= 2) {
-        if ((strokes & bit) != 0) {
-          strokes &= ~bit;
+      for (int k = STROKES - 1; k >= 0; k--) {
+        int stroke = 1 << k;
+        if ((strokes & stroke) != 0) {
+          strokes -= stroke;
           return;
         }
       }

@@ -96,6 +96,10 @@ public final class PromiseTests {
       call.make();
     } catch (RuntimeException e) {
       got = e.getClass().getSimpleName();
+      // Thrown by the program itself, not by a list or the machine below it.
+      if (!e.getStackTrace()[0].getClassName().startsWith("BoomSorters")) {
+        got += " of " + e.getStackTrace()[0].getClassName();
+      }
     }
     if (!got.equals(exception)) {
       wrong++;
@@ -377,6 +381,10 @@ public final class PromiseTests {
     due("a KEY loses one too", x.ofLog(3, 5), 20);
     due("9 and 7 are 16", x.ofReach(1, 6), 3);
     due("in a JAM none is lost", x.ofLog(4, 5), 22);
+    for (int strokes = 0; strokes < 64; strokes++) {
+      BoomSorters one = jamOf(1, 0, strokes);
+      due("the smallest one of " + strokes, one.ofLog(0, 5), strokes - Integer.lowestOneBit(strokes));
+    }
     BoomSorters y = new BoomSorters();
     for (int k = 0; k < 8; k++) {
       y.fell(0, 4, 0, k == 7 ? 9 : 3, 1);
@@ -597,6 +605,21 @@ public final class PromiseTests {
       x.pass(0, 2);
       due("no more SOAKED", x.ofLog(0, 6), new int[] {24, 18, 14}[kind]);
     }
+    // An OAK that dried in between: 12, 11, 13, 15.
+    BoomSorters oak = flowing();
+    rolled(oak, 1, 2, 3, 1);
+    oak.pass(40, 1);
+    oak.pass(0, 5);
+    oak.gate(5, 0);
+    oak.storm(1);
+    oak.pass(0, 1);
+    oak.push(0);
+    oak.pass(0, 1);
+    due("SOAKED by 13", oak.ofLog(0, 6), 13);
+    due("it swims", place(oak, 0), AFLOAT);
+    oak.pass(0, 1);
+    due("SOAKED by 15", oak.ofLog(0, 6), 15);
+    due("it is SUNK", place(oak, 0), SUNK);
     // The KEY sinks: the next one is the KEY. The last one sinks: there is no JAM.
     BoomSorters x = new BoomSorters();
     x.rocks(2, 7);
@@ -742,6 +765,11 @@ public final class PromiseTests {
     z.blast(5);
     due("no STROKE to lose", z.ofLog(1, 5), 0);
     due("a JAM of just its KEY", jamOf(1, 0, 0).blast(5), 0);
+    for (int strokes = 0; strokes < 64; strokes++) {
+      BoomSorters one = jamOf(1, 1, strokes);
+      one.blast(5);
+      due("the greatest one of " + strokes, one.ofLog(1, 5), strokes - Integer.highestOneBit(strokes));
+    }
   }
 
   private static void promise14() {
@@ -836,6 +864,7 @@ public final class PromiseTests {
     due("what is SHARED is not SORTED", x.ofOwner(0, 7), 10);
     due("STROKES", x.ofLog(0, 5), 0);
     due("COSTS of sorting alone", x.many(14), 4);
+    sharesOfThirty();
     // 30 less for each: an OWNER with 60 and one with 40.
     BoomSorters y = flowing();
     y.mark(1, 2);
@@ -857,6 +886,22 @@ public final class PromiseTests {
     due("PLACE", place(y, 6), GAP);
   }
 
+  /** 30 are just gone by the first LOG of the POOL: then all four are at 0, and it is the first one's turn. */
+  private static void sharesOfThirty() {
+    for (int owner = 0; owner < 2; owner++) {
+      BoomSorters x = flowing();
+      x.mark(owner, 1);
+      rolled(x, 1, 0, 5, 6);
+      rolled(x, 0, 0, 5, 1);
+      rolled(x, 0, 0, 5, 1);
+      x.pass(40, 1);
+      x.sort(3);
+      x.share();
+      due("the OWNER with 30", x.ofOwner(owner, 6), owner == 0 ? 2 : 1);
+      due("the OWNER 0", x.ofOwner(0, 6), owner == 0 ? 2 : 1);
+    }
+  }
+
   private static void promise18() {
     at = "promise 18";
     BoomSorters x = boomOf(1, 1, 2);
@@ -864,7 +909,8 @@ public final class PromiseTests {
     x.pass(0, 1);
     x.sort(3);
     due("COSTS", x.many(14), 13);
-    due("settle: 13 by 20 to 10", x.settle(0), 1);
+    x.fell(0, 0, 0, 9, 9);
+    due("settle: 13 by 20 to 10, the WOODS do not count", x.settle(0), 1);
     due("OWNER 0", x.ofOwner(0, 1), -8);
     due("OWNER 1", x.ofOwner(1, 1), -4);
     due("OWNER 2", x.ofOwner(2, 1), 0);
@@ -1002,10 +1048,17 @@ public final class PromiseTests {
     y.roll(1);
     y.pass(0, 7);
     due("an OWNER without a MARK", y.raise(0, 3), NONE);
+    // (At the REACH 0 too.)
+    y.fell(0, 0, 2, 3, 1);
+    y.roll(0);
+    y.pass(0, 7);
+    y.raise(1, 3);
+    due("push at 0", y.push(1), AFLOAT);
+    due("AFLOAT at 0", y.row(0, 0), 1);
     // What was raised can come, and sink, again; it SANK last on the later DAY.
     y.push(0);
     y.pass(0, 7);
-    due("SANK again", y.ofLog(0, 8), 14);
+    due("SANK again", y.ofLog(0, 8), 21);
     y.pass(0, 3);
     y.mark(0, 9);
     due("raised again", y.raise(0, 0), 0);
@@ -1167,10 +1220,18 @@ public final class PromiseTests {
     due("SOAKED by 8", x.scale(0, 2), 21);
     x.pass(0, 1);
     due("SOAKED by 10: half", x.scale(0, 2), 10);
+    x.fell(0, 1, 0, 7, 5);
+    x.roll(1);
+    x.pass(0, 1);
+    for (int k = 0; k < 9; k++) {
+      due("a PINE SOAKED by less than 10", x.scale(3, 2), 21);
+      x.pass(0, 1);
+    }
+    due("a PINE SOAKED by 10", x.scale(3, 2), 10);
     due("by the rule 0", x.scale(0, 0), 35);
     due("by the rule 1", x.scale(0, 1), 21);
     refuses(x, INDEX, "log -1", () -> x.scale(-1, 0));
-    refuses(x, INDEX, "log 3", () -> x.scale(3, 3));
+    refuses(x, INDEX, "log 4", () -> x.scale(4, 3));
     refuses(x, ARGUMENT, "rule -1", () -> x.scale(0, -1));
     refuses(x, ARGUMENT, "rule 3", () -> x.scale(0, 3));
   }
@@ -1317,6 +1378,15 @@ public final class PromiseTests {
     refuses(x, ARGUMENT, "melt -1", () -> x.freeIn(0, -1));
     refuses(x, ARGUMENT, "melt 41", () -> x.freeIn(5, 41));
     jamOfTheSameDay();
+    BoomSorters y = new BoomSorters();
+    y.rocks(0, 9);
+    y.fell(0, 0, 2, 9, 9);
+    y.fell(0, 0, 1, 9, 9);
+    y.roll(0);
+    due("a SPRUCE sinks on the DAY 18", y.freeIn(0, 0), 18);
+    y.pass(0, 7);
+    due("the OAK is SUNK", place(y, 0), SUNK);
+    due("11 DAYS later", y.freeIn(0, 0), 11);
   }
 
   /** A JAM breaks, and the LOG that comes on the same DAY is the KEY of a new one: it counts as the DAY ends. */
@@ -1357,6 +1427,11 @@ public final class PromiseTests {
     due("ROOM for two: 10 are enough", x.bestGate(5, 40, 1), 1);
     x.boom(0);
     due("no ROOM", x.bestGate(5, 40, 20), 0);
+    x.boom(40);
+    for (int k = 0; k < 3; k++) {
+      rolled(x, 1, 0, 3, 1);
+    }
+    due("no GATE is above 3", x.bestGate(5, 40, 1), 3);
     refuses(x, INDEX, "reach -1", () -> x.bestGate(-1, 0, 1));
     refuses(x, INDEX, "reach 6", () -> x.bestGate(6, 41, 0));
     refuses(x, ARGUMENT, "melt -1", () -> x.bestGate(0, -1, 1));
@@ -1389,6 +1464,50 @@ public final class PromiseTests {
     dueLong("digest later", x.digest(), digestByItsWords(x, 5));
     BoomSorters y = new BoomSorters();
     dueLong("digest without LOGS", y.digest(), digestByItsWords(y, NONE));
+    digestOfForecasts();
+  }
+
+  /** States in which each forecast of the digest would be another one with any other argument. */
+  private static void digestOfForecasts() {
+    // JAMS that need 20 and 42 of WATER, behind a shut GATE.
+    int[][] jams = {{8, 0}, {9, 5}};
+    for (int[] jam : jams) {
+      BoomSorters x = new BoomSorters();
+      x.gate(0, 0);
+      x.rocks(0, 9);
+      x.fell(0, 0, 0, 7, jam[0]);
+      for (int k = 0; k < jam[1]; k++) {
+        x.fell(0, 0, 0, 3, 1);
+      }
+      x.roll(0);
+      due("freeIn", x.freeIn(0, 20), jam[1] == 0 ? 1 : 3);
+      dueLong("digest with a JAM", x.digest(), digestByItsWords(x, jam[1]));
+    }
+    // The WATER of the first DAY carries 5 LOGS out of the REACH 5 on the DAY 6: 20 / 4, and 23 / 4.
+    for (int ahead = 0; ahead <= 3; ahead += 3) {
+      BoomSorters x = new BoomSorters();
+      x.gate(0, 0);
+      x.pass(ahead, 1);
+      x.gate(0, 3);
+      for (int k = 0; k < 12; k++) {
+        x.fell(0, 5, 0, 3, 1);
+      }
+      x.roll(5);
+      due("boomIn", x.boomIn(20, 6), 5);
+      dueLong("digest with WATER to come", x.digest(), digestByItsWords(x, 11));
+    }
+    // A GATE of 1 carries 2 LOGS a DAY: 8 of them in 4 DAYS.
+    for (int many = 8; many <= 9; many++) {
+      BoomSorters x = new BoomSorters();
+      x.gate(5, 0);
+      x.pass(40, 20);
+      for (int k = 0; k < many; k++) {
+        x.fell(0, 5, 0, 3, 1);
+      }
+      x.roll(5);
+      due("bestGate", x.bestGate(5, 10, 4), many - 7);
+      dueLong("digest with a GATE to choose", x.digest(), digestByItsWords(x, many - 1));
+    }
   }
 
   private static long digestByItsWords(BoomSorters x, int lastLog) {

@@ -86,7 +86,6 @@ public final class BoomSorters {
     log.length = length;
     log.girth = girth;
     log.strokes = owners[owner].mark;
-    log.place = WOODS;
     log.reach = reach;
     river.logs.add(log);
     return log.number;
@@ -701,10 +700,10 @@ public final class BoomSorters {
 
   private static final class Log {
     private final int number;
-    private int kind = PINE;
-    private int length = 3;
-    private int girth = 1;
-    private int strokes = 0;
+    private int kind;
+    private int length;
+    private int girth;
+    private int strokes;
     private int soaked = 0;
     private int place = WOODS;
     // NONE wherever the place is at no REACH.

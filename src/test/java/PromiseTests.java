@@ -1431,6 +1431,8 @@ public final class PromiseTests {
     for (int k = 0; k < 3; k++) {
       rolled(x, 1, 0, 3, 1);
     }
+    x.pass(40, 1);
+    due("WATER for more", x.ofReach(5, 0), 60);
     due("no GATE is above 3", x.bestGate(5, 40, 1), 3);
     refuses(x, INDEX, "reach -1", () -> x.bestGate(-1, 0, 1));
     refuses(x, INDEX, "reach 6", () -> x.bestGate(6, 41, 0));

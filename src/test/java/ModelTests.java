@@ -48,7 +48,9 @@ public final class ModelTests {
         wrong++;
         System.out.println("run " + run + ", call " + call + " " + java.util.Arrays.toString(a) + ": answered " + got
             + ", the model " + want + (gotDigest != wantDigest ? " (the digests differ)" : ""));
-        System.out.println("  " + told);
+        if (wrong == 1) {
+          System.out.println("  its calls (by the numbers of callProgram) and the model's answers:" + told);
+        }
         return;
       }
     }

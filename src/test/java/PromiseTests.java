@@ -1563,7 +1563,7 @@ public final class PromiseTests {
     for (int k = 0; k < 6; k++) {
       x.roll(k);
     }
-    for (int k = 0; k < 464; k++) {
+    for (int k = 0; k < 463; k++) {
       if (k % 4 == 3) {
         x.digest();
       } else {

@@ -963,23 +963,26 @@ public final class BoundaryTests {
   }
 
   private static void sunkAtFive() {
-    BoomSorters x = boomOf(1, 0, 1);
-    x.sort(2);
+    BoomSorters x = boomOf(1, 2, 4, 8, 0, 1);
+    x.sort(5);
     x.pass(0, 20);
     x.pass(0, 2);
-    due("in a GAP, SOAKED by 23", place(x, 0), GAP);
-    due("in the POOL, SOAKED by 23", place(x, 1), POOL);
-    due("in the BOOM, SOAKED by 23", place(x, 2), BOOM);
+    for (int log = 0; log < 6; log++) {
+      due("PLACE, SOAKED by 23", place(x, log), log < 4 ? GAP : log == 4 ? POOL : BOOM);
+    }
     x.pass(0, 1);
-    for (int log = 0; log < 3; log++) {
+    for (int log = 0; log < 6; log++) {
       due("PLACE", place(x, log), SUNK);
       due("its REACH", x.ofLog(log, 1), 5);
       due("the DAY on which it SANK", x.ofLog(log, 8), 30);
     }
-    due("SUNK at 5", x.ofReach(5, 8), 3);
+    due("SUNK at 5", x.ofReach(5, 8), 6);
     due("SUNK at 0", x.ofReach(0, 8), 0);
     due("in the BOOM", x.row(NONE, 0), NONE);
-    due("in the GAP", x.ofOwner(0, 3), NONE);
+    for (int owner = 0; owner < 4; owner++) {
+      due("LOGS in the GAP of " + owner, x.ofOwner(owner, 2), 0);
+      due("the first one in the GAP of " + owner, x.ofOwner(owner, 3), NONE);
+    }
     due("in the POOL", x.share(), 0);
   }
 
